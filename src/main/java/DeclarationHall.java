@@ -585,7 +585,7 @@ public final class DeclarationHall {
             int value = 0;
             for (int i = tokenStart; i < tokenEnd; i++) {
                 int digit = tape.bytes[i] - ZERO;
-                if (!isWithin(digit, 0, 9)) {
+                if (digit < 0 || digit > 9) {
                     return -1;
                 }
                 // A text can hold more digits than an int.
@@ -763,6 +763,7 @@ public final class DeclarationHall {
         private final int[] partners = new int[MOST_LINES];
         private final int[] quarrels = new int[MOST_LINES];
         private final int[] landTold = new int[PLOTS];
+        private final int[] housesTold = new int[PLOTS];
         private final int[] valuesHeld = new int[ITEMS];
         private final int[] worths = new int[HOUSES];
 
@@ -775,11 +776,15 @@ public final class DeclarationHall {
 
         void reckon(int year, int day) {
             takeLines(year, day);
-            matchDebts();
-            findQuarrels(day);
+            for (int plot = 0; plot < PLOTS; plot++) {
+                housesTold[plot] = words.houseTold(plot, day);
+            }
             for (int item = 0; item < ITEMS; item++) {
                 valuesHeld[item] = decrees.valueHeld(item, year, day);
             }
+            matchDebts();
+            findDebtQuarrels();
+            findLandQuarrels();
             sumWorths();
         }
 
@@ -829,37 +834,43 @@ public final class DeclarationHall {
                 && lines.numbers[lent] == lines.numbers[owes];
         }
 
-        private void findQuarrels(int day) {
-            Arrays.fill(landTold, 0);
+        private void findDebtQuarrels() {
             for (int line = 0; line < lines.count; line++) {
-                if (quarrels[line] != NONE) {
-                    quarrels[line] = findQuarrel(line, day);
+                if (quarrels[line] != NONE && partners[line] == NONE) {
+                    quarrels[line] = quarrelOfUnmatched(lines.kinds[line]);
                 }
             }
         }
 
-        private int findQuarrel(int line, int day) {
-            switch (lines.kinds[line]) {
-                case LAND: return findLandQuarrel(line, day);
-                case OWES: return partners[line] == NONE ? OWES_UNMATCHED : NO_QUARREL;
-                case LENT: return partners[line] == NONE ? LENT_UNMATCHED : NO_QUARREL;
+        private static int quarrelOfUnmatched(int kind) {
+            switch (kind) {
+                case OWES: return OWES_UNMATCHED;
+                case LENT: return LENT_UNMATCHED;
                 default: return NO_QUARREL;
             }
         }
 
-        private int findLandQuarrel(int line, int day) {
-            int plot = lines.others[line];
+        private void findLandQuarrels() {
+            Arrays.fill(landTold, 0);
+            for (int line = 0; line < lines.count; line++) {
+                if (quarrels[line] != NONE && lines.kinds[line] == LAND) {
+                    quarrels[line] = tellLand(lines.others[line], lines.numbers[line], lines.houses[line]);
+                }
+            }
+        }
+
+        /** The quarrel of so much land that a house tells; only land without one fills up the plot. */
+        private int tellLand(int plot, int number, int house) {
             if (!isPlot(plot) || plots.areas[plot] == 0) {
                 return UNMEASURED;
             }
-            if (landTold[plot] + lines.numbers[line] > plots.areas[plot]) {
+            if (landTold[plot] + number > plots.areas[plot]) {
                 return TOO_MUCH;
             }
-            int told = words.houseTold(plot, day);
-            if (told != NONE && told != lines.houses[line]) {
+            if (housesTold[plot] != NONE && housesTold[plot] != house) {
                 return TOLD_OF_ANOTHER;
             }
-            landTold[plot] += lines.numbers[line];
+            landTold[plot] += number;
             return NO_QUARREL;
         }
 
@@ -877,17 +888,14 @@ public final class DeclarationHall {
 
         private int valueOfLine(int line) {
             int number = lines.numbers[line];
+            int plot = lines.others[line];
             switch (lines.kinds[line]) {
-                case LAND: return number * worthOfLand(lines.others[line]);
+                case LAND: return isPlot(plot) ? number * valuesHeld[plots.classes[plot]] : 0;
                 case HEADS: return -number * valuesHeld[ALLOWANCE];
                 case OWES: return -number * valuesHeld[DEBTS_COUNT];
                 case LENT: return number * valuesHeld[DEBTS_COUNT];
                 default: return number;
             }
-        }
-
-        private int worthOfLand(int plot) {
-            return isPlot(plot) ? valuesHeld[plots.classes[plot]] : 0;
         }
     }
 

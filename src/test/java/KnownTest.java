@@ -12,7 +12,9 @@ public final class KnownTest {
         worthsAreSummed();
         taxesAreCut();
         sinceLooksBack();
+        sinceDayByDay();
         differsTellsTheLeast();
+        fullHall();
         wrongInputs();
         CHECK.end();
     }
@@ -233,6 +235,49 @@ public final class KnownTest {
         CHECK.due("measures are as now for all days", 0, hall.since(0, 0));
     }
 
+    /** One day with another worth is enough, next to others and at the very start. */
+    private static void sinceDayByDay() {
+        DeclarationHall hall = new DeclarationHall();
+        Check.declare(hall, 0, 0, "goods 5");
+        hall.days(1);
+        hall.appeal(0, 1);
+        CHECK.due("day 1", 1, hall.since(0, 0));
+        hall.days(1);
+        hall.appeal(0, 0);
+        CHECK.due("day 2, worth as on day 0", 2, hall.since(0, 0));
+        hall.days(1);
+        CHECK.due("day 3", 2, hall.since(0, 0));
+    }
+
+    /** All rows are full to their ends. */
+    private static void fullHall() {
+        DeclarationHall hall = new DeclarationHall();
+        hall.measure(0, 2000, 0);
+        for (int i = 0; i < 20; i++) {
+            Check.declare(hall, 0, 0, "land 0 100,goods 1,heads 1,owes 1 " + (i + 1) + ",lent 1 7");
+        }
+        for (int i = 0; i < 20; i++) {
+            hall.says(i % 10, 0, 0);
+            hall.says(i % 10, 1, 1);
+            hall.decree(5, 0, i);
+            hall.decree(0, 0, 2);
+        }
+        CHECK.due("quarrels", 40, hall.quarrels(0, 0));
+        CHECK.due("worth", 4020, hall.worth(0, 0, 0));
+        CHECK.due("tax", 76, hall.tax(0, 0, 0));
+        CHECK.due("taxes", 76, hall.taxes(0, 0));
+        CHECK.due("match of the last", Check.NONE, hall.match(99, 0));
+        CHECK.due("quarrel of the last", 5, hall.quarrel(99, 0));
+        CHECK.due("told", 0, hall.toldOf(0, 0));
+        CHECK.due("since", 0, hall.since(0, 0));
+        CHECK.due("differs", Check.NONE, hall.differs(0, 0, 1));
+        for (int n = 1; n <= 8; n++) {
+            CHECK.due("appeal of the last", n, hall.appeal(99, n % 2));
+        }
+        CHECK.due("it stands", 1, hall.stands(99, 0));
+        CHECK.due("levy", 0, hall.levy(3, 0));
+    }
+
     private static void differsTellsTheLeast() {
         DeclarationHall hall = new DeclarationHall();
         Check.declare(hall, 5, 0, "goods 5");
@@ -247,6 +292,10 @@ public final class KnownTest {
         CHECK.due("2, 100000", Check.NONE, hall.differs(0, 2, 100000));
         CHECK.due("1, 1", Check.NONE, hall.differs(0, 1, 1));
         CHECK.due("another year", Check.NONE, hall.differs(1, 0, 2));
+        Check.declare(hall, 1, 0, "goods 5");
+        CHECK.due("house 1", 1, hall.differs(0, 2, 1));
+        Check.declare(hall, 0, 0, "goods 5");
+        CHECK.due("house 0", 0, hall.differs(0, 2, 1));
     }
 
     private static void wrongInputs() {

@@ -50,6 +50,9 @@ public final class LoansTest {
         shares(even, 0, 0, 1, 0, 0, 0);
         even.levy(2, 0);
         shares(even, 1, 0, 1, 0, 1, 0);
+        DeclarationHall least = withGoods(1, 1, 1);
+        least.levy(2, 0);
+        shares(least, 0, 1, 1, 0, 0);
         DeclarationHall all = withGoods(9, 9, 9, 9, 9, 9, 9, 9, 9, 9);
         all.levy(99999, 0);
         shares(all, 0, 10000, 10000, 10000, 10000, 10000, 10000, 10000, 10000, 10000, 9999);
@@ -90,6 +93,8 @@ public final class LoansTest {
         DeclarationHall hall = withGoods(3, 1);
         hall.levy(100, 0);
         hall.levy(8, 0);
+        CHECK.due("all but 1", 24, hall.pay(0, 1, 24));
+        CHECK.due("the last 1", 1, hall.pay(0, 1, 2));
         CHECK.due("a part", 30, hall.pay(0, 0, 30));
         CHECK.due("paid", 30, hall.loan(0, 0, 1));
         CHECK.due("credit", 30, hall.loan(0, 0, 2));
@@ -98,13 +103,13 @@ public final class LoansTest {
         CHECK.due("nothing is left", Check.NO, hall.pay(0, 0, 1));
         CHECK.due("no share", Check.NO, hall.pay(0, 9, 1));
         CHECK.due("another loan", 6, hall.pay(1, 0, 6));
-        CHECK.due("another house", 1, hall.pay(0, 1, 1));
-        CHECK.due("count(7)", 75 + 6 + 1, hall.count(7));
+        CHECK.due("another house", 1, hall.pay(1, 1, 1));
+        CHECK.due("count(7)", 25 + 75 + 6 + 1, hall.count(7));
         int[][] bad = {{-1, 0, 1}, {2, 0, 1}, {0, -1, 1}, {0, 10, 1}, {0, 0, 0}, {0, 0, -1}, {0, 0, 100001}};
         for (int[] a : bad) {
             CHECK.due("pay(" + a[0] + ", " + a[1] + ", " + a[2] + ")", Check.BAD, hall.pay(a[0], a[1], a[2]));
         }
-        CHECK.due("refused pays change nothing", 82, hall.count(7));
+        CHECK.due("refused pays change nothing", 107, hall.count(7));
     }
 
     private static void creditIsSold() {

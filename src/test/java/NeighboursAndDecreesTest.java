@@ -43,6 +43,8 @@ public final class NeighboursAndDecreesTest {
         CHECK.due("2 of 4", Check.NONE, hall.toldOf(11, 0));
         hall.says(4, 11, 8);
         CHECK.due("3 of 5", 8, hall.toldOf(11, 100000));
+        hall.says(9, 2, 0);
+        CHECK.due("the first house", 0, hall.toldOf(2, 0));
     }
 
     private static void latestWordsCount() {
