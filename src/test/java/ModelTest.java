@@ -1,6 +1,3 @@
-import java.lang.reflect.Method;
-import java.nio.charset.StandardCharsets;
-import java.util.ArrayList;
 import java.util.List;
 import java.util.Random;
 
@@ -32,7 +29,7 @@ public final class ModelTest {
         years = 1 + random.nextInt(run % 2 == 0 ? 3 : 31);
     }
 
-    public static void main(String[] args) throws ReflectiveOperationException {
+    public static void main(String[] args) {
         int wrong = 0;
         for (int run = 0; run < RUNS && wrong == 0; run++) {
             wrong = new ModelTest(run).wrongOfRun();
@@ -43,7 +40,7 @@ public final class ModelTest {
         }
     }
 
-    private int wrongOfRun() throws ReflectiveOperationException {
+    private int wrongOfRun() {
         int calls = 0;
         while (calls < CALLS && check.wrong() == 0) {
             int dice = random.nextInt(100);
@@ -61,17 +58,11 @@ public final class ModelTest {
         return check.wrong();
     }
 
-    private int declareText(String text) throws ReflectiveOperationException {
-        call("trim", 0);
-        byte[] bytes = text.getBytes(StandardCharsets.ISO_8859_1);
-        int calls = 3;
-        for (int at = 0; at < bytes.length; at += 12) {
-            call("feed", Check.number(bytes, at), Check.number(bytes, at + 4), Check.number(bytes, at + 8));
-            calls++;
-        }
-        call("trim", bytes.length);
+    private int declareText(String text) {
+        List<Call> calls = Call.toWrite(text);
+        calls.forEach(this::compare);
         call("declare", random.nextInt(houses), random.nextInt(years));
-        return calls;
+        return calls.size() + 1;
     }
 
     private String randomText() {
@@ -101,7 +92,7 @@ public final class ModelTest {
         return " ".repeat(least + (random.nextInt(8) == 0 ? 1 + random.nextInt(2) : 0));
     }
 
-    private int[] wildArguments(String name) throws ReflectiveOperationException {
+    private int[] wildArguments(String name) {
         int[] a = arguments(name);
         a[random.nextInt(a.length)] = EDGES[random.nextInt(EDGES.length)];
         return a;
@@ -134,7 +125,8 @@ public final class ModelTest {
     private int[] arguments(String name) {
         return switch (name) {
             case "days" -> new int[] {random.nextInt(4)};
-            case "measure" -> new int[] {plot(), 1 + random.nextInt(random.nextBoolean() ? 12 : 2000), random.nextInt(3)};
+            case "measure" -> new int[] {plot(), 1 + random.nextInt(random.nextBoolean() ? 12 : 2000),
+                random.nextInt(3)};
             case "feed" -> new int[] {random.nextInt(), random.nextInt(), random.nextInt()};
             case "trim" -> new int[] {random.nextInt(61)};
             case "declare" -> new int[] {house(), year()};
@@ -164,17 +156,12 @@ public final class ModelTest {
         return new int[] {item, year(), random.nextInt(most)};
     }
 
-    private void call(String name, int... a) throws ReflectiveOperationException {
-        Class<?>[] types = new Class<?>[a.length];
-        List<Object> values = new ArrayList<>();
-        for (int i = 0; i < a.length; i++) {
-            types[i] = int.class;
-            values.add(a[i]);
-        }
-        Method asked = DeclarationHall.class.getMethod(name, types);
-        Method due = PlainModel.class.getDeclaredMethod(name, types);
-        int want = (int) due.invoke(model, values.toArray());
-        check.due("run " + run + ": " + name + values, want, (int) asked.invoke(hall, values.toArray()));
+    private void call(String name, int... arguments) {
+        compare(new Call(name, arguments));
+    }
+
+    private void compare(Call call) {
+        check.due("run " + run + ": " + call, call.askedOf(model), call.askedOf(hall));
         today = model.count(5);
     }
 }

@@ -1,237 +1,150 @@
-/** Promises 4 to 10: the tape, declarations, lines and their appeals. */
+/** Promise 6: what a text may be, where its first fault is, and whether there is room for its lines. */
 public final class TextsTest {
     private static final Check CHECK = new Check();
+    private static final String SEVEN_LINES = "goods 1,goods 2,goods 3,goods 4,goods 5,goods 6,goods 7";
 
     public static void main(String[] args) {
-        tapeIsFed();
-        tapeIsTrimmed();
-        textsAreRead();
-        faultsAreTold();
-        tapeIsUsedUp();
-        linesTell();
-        linesAreOfKinds();
-        roomForAllOrNone();
-        linesAreAppealed();
-        linesStand();
+        oneOrMoreLines();
+        numbersOfKinds();
+        plotsAndHouses();
+        blanks();
+        words();
+        numbers();
+        whatCannotStandThere();
+        theEnd();
+        theFirstFault();
+        places();
+        housesAndYears();
+        roomForAll();
         CHECK.end();
     }
 
-    private static void tapeIsFed() {
-        DeclarationHall hall = new DeclarationHall();
-        CHECK.due("feed", 12, hall.feed(-1, Integer.MIN_VALUE, Integer.MAX_VALUE));
-        hall.trim(1);
-        CHECK.due("feed behind 1", 13, hall.feed(1, 2, 3));
-        hall.trim(0);
-        for (int i = 1; i <= 4; i++) {
-            CHECK.due("feed", 12 * i, hall.feed(0, 0, 0));
-        }
-        CHECK.due("count(4)", 48, hall.count(4));
-        CHECK.due("the last that fits", 60, hall.feed(0, 0, 0));
-        CHECK.due("one more", Check.FULL, hall.feed(0, 0, 0));
-        hall.trim(49);
-        CHECK.due("61 bytes", Check.FULL, hall.feed(0, 0, 0));
-        CHECK.due("refused feed", 49, hall.count(4));
-        hall.trim(0);
-        // "good" "s 12" "    ": the highest byte comes first.
-        hall.feed(0x676F6F64, 0x73203132, 0x20202020);
-        CHECK.due("goods 12", 1, hall.declare(3, 4));
-        CHECK.due("its number", 12, hall.line(0, 5));
-    }
-
-    private static void tapeIsTrimmed() {
-        DeclarationHall hall = new DeclarationHall();
-        CHECK.due("trim(0) of none", 0, hall.trim(0));
-        CHECK.due("trim(1) of none", Check.BAD, hall.trim(1));
-        hall.feed(0, 0, 0);
-        CHECK.due("trim(13) of 12", Check.BAD, hall.trim(13));
-        CHECK.due("trim(-1)", Check.BAD, hall.trim(-1));
-        CHECK.due("trim(12)", 12, hall.trim(12));
-        CHECK.due("trim(5)", 5, hall.trim(5));
-        CHECK.due("trim(6)", Check.BAD, hall.trim(6));
-        CHECK.due("count(4)", 5, hall.count(4));
-    }
-
-    private static void reads(String text, int want) {
-        DeclarationHall hall = new DeclarationHall();
-        CHECK.due("declare \"" + text + "\"", want, Check.declare(hall, 2, 0, text));
-        CHECK.due("lines of \"" + text + "\"", Math.max(want, 0), hall.count(0));
-        CHECK.due("tape behind \"" + text + "\"", 0, hall.count(4));
-    }
-
-    private static void textsAreRead() {
-        reads("land 0 1", 1);
-        reads("land 11 500", 1);
-        reads("goods 9999", 1);
-        reads("heads 50", 1);
-        reads("owes 9 9999", 1);
-        reads("lent 0 1", 1);
-        reads("  land   0    1  ", 1);
-        reads("goods 1,goods 2", 2);
-        reads("goods 1 ,goods 2", 2);
-        reads("goods 1, goods 2 ", 2);
-        reads("land 0011 00500", 1);
-        reads("goods 00000000000000000000000000000000000000000000000000001", 1);
-        reads("goods 1,heads 1,goods 1,heads 1,goods 1,heads 1,goods 1", 7);
-        reads("land 1 2,goods 3,heads 4,owes 5 6,lent 7 8", 5);
-    }
-
-    private static void faultsAreTold() {
-        reads("", -100);
-        reads("   ", -103);
-        reads(",", -100);
-        reads(" ,goods 1", -101);
-        reads("x", -100);
-        reads("Land 1 1", -100);
-        reads("lands 1 1", -100);
-        reads("lan 1 1", -100);
-        reads("goods1", -100);
-        reads("7", -100);
-        reads("land", -104);
-        reads("land  ", -106);
-        reads("land,1 1", -104);
-        reads("land 12 1", -105);
-        reads("land -1 1", -105);
-        reads("land 1", -106);
-        reads("land 1 ", -107);
-        reads("land 1,", -106);
-        reads("land 1 0", -107);
-        reads("land 1 501", -107);
-        reads("land x 501", -105);
-        reads("land 1 5 5", -109);
-        reads("land 1 5 ,", -110);
-        reads("goods 0", -106);
-        reads("goods 10000", -106);
-        reads("goods 4294967297", -106);
-        reads("goods 18446744073709551617", -106);
-        reads("goods 1x", -106);
-        reads("goods +1", -106);
-        reads("goods 1.", -106);
-        reads("goods 1/", -106);
-        reads("goods 1:", -106);
-        reads("goods 1,", -108);
-        reads("goods 1,  ", -110);
-        reads("goods 1,,goods 1", -108);
-        reads("goods 1 goods 1", -108);
-        reads("goods\t1", -100);
-        reads("goods 1\0", -106);
-        reads("goods \u00b1", -106);
-        reads("heads 0", -106);
-        reads("heads 51", -106);
-        reads("owes 2 1", -105);
-        reads("owes 02 1", -105);
-        reads("owes 10 1", -105);
-        reads("owes 1 0", -107);
-        reads("owes 1 10000", -107);
-        reads("lent 2 1", -105);
-        reads("lent 10 1", -105);
-        reads("lent 1 10000", -107);
-        reads("lent goods 1", -105);
-        reads("goods 1,goods 2,bad", -116);
-        reads("                                                           x", -159);
-        reads("                                                            ", -160);
-    }
-
-    private static void tapeIsUsedUp() {
-        DeclarationHall hall = new DeclarationHall();
-        int[][] bad = {{-1, 0}, {10, 0}, {0, -1}, {0, 31}, {Integer.MAX_VALUE, Integer.MIN_VALUE}};
-        for (int[] a : bad) {
-            CHECK.due("declare(" + a[0] + ", " + a[1] + ")", Check.BAD, Check.declare(hall, a[0], a[1], "goods 1"));
-            CHECK.due("the tape", 0, hall.count(4));
-        }
-        CHECK.due("BAD stands ahead of a fault", Check.BAD, Check.declare(hall, 10, 0, "x"));
-        CHECK.due("no lines", 0, hall.count(0));
-        CHECK.due("the last house and year", 1, Check.declare(hall, 9, 30, "goods 1"));
-    }
-
-    private static void linesTell() {
-        DeclarationHall hall = new DeclarationHall();
-        Check.declare(hall, 3, 30, "land 11 500,goods 9");
-        hall.days(77);
-        Check.declare(hall, 4, 2, "heads 50,owes 3 8, lent 9 7");
-        int[][] want = {{1, 3, 30, 0, 11, 500, 0}, {2, 3, 30, 0, Check.NONE, 9, 0}, {3, 4, 2, 77, Check.NONE, 50, 0},
-            {4, 4, 2, 77, 3, 8, 1}, {5, 4, 2, 77, 9, 7, 0}};
-        hall.appeal(3, 1);
-        for (int line = 0; line < want.length; line++) {
-            for (int what = 0; what <= 6; what++) {
-                CHECK.due("line(" + line + ", " + what + ")", want[line][what], hall.line(line, what));
-            }
-        }
-        CHECK.due("line(5, 0)", Check.BAD, hall.line(5, 0));
-        CHECK.due("line(-1, 0)", Check.BAD, hall.line(-1, 0));
-        CHECK.due("line(0, -1)", Check.BAD, hall.line(0, -1));
-        CHECK.due("line(0, 7)", Check.BAD, hall.line(0, 7));
-    }
-
-    private static void linesAreOfKinds() {
-        DeclarationHall hall = new DeclarationHall();
-        Check.declare(hall, 0, 0, "land 1 1,goods 1,heads 1,owes 1 1,lent 1 1");
-        String[] kinds = {"11000001", "10100001", "10010000", "10001010", "10000111"};
-        for (int line = 0; line < kinds.length; line++) {
-            for (int kind = 0; kind <= 7; kind++) {
-                CHECK.due("isOf(" + line + ", " + kind + ")", kinds[line].charAt(kind) - '0', hall.isOf(line, kind));
-            }
-        }
-        CHECK.due("isOf(0, 8)", Check.BAD, hall.isOf(0, 8));
-        CHECK.due("isOf(0, -1)", Check.BAD, hall.isOf(0, -1));
-        CHECK.due("isOf(5, 0)", Check.BAD, hall.isOf(5, 0));
-        CHECK.due("isOf(-1, 0)", Check.BAD, hall.isOf(-1, 0));
-    }
-
-    private static void roomForAllOrNone() {
-        DeclarationHall hall = new DeclarationHall();
-        for (int i = 0; i < 14; i++) {
-            Check.declare(hall, 0, 0, "goods 1,goods 1,goods 1,goods 1,goods 1,goods 1,goods 1");
-        }
-        CHECK.due("lines", 98, hall.count(0));
-        CHECK.due("3 into room for 2", Check.FULL, Check.declare(hall, 0, 0, "goods 1,goods 1,goods 1"));
-        CHECK.due("lines after FULL", 98, hall.count(0));
-        CHECK.due("tape after FULL", 0, hall.count(4));
-        CHECK.due("a fault stands ahead of FULL", -124, Check.declare(hall, 0, 0, "goods 1,goods 1,goods 1,"));
-        CHECK.due("2 into room for 2", 2, Check.declare(hall, 0, 0, "goods 1,heads 9"));
-        CHECK.due("1 into none", Check.FULL, Check.declare(hall, 0, 0, "goods 1"));
-        CHECK.due("the last line", 3, hall.line(99, 0));
-        CHECK.due("behind it", Check.BAD, hall.line(100, 0));
-    }
-
-    private static void linesAreAppealed() {
-        DeclarationHall hall = new DeclarationHall();
-        CHECK.due("no line yet", Check.BAD, hall.appeal(0, 1));
-        Check.declare(hall, 0, 0, "goods 1,goods 2");
-        CHECK.due("let stand what stands", Check.NO, hall.appeal(0, 0));
-        CHECK.due("strike", 1, hall.appeal(0, 1));
-        CHECK.due("strike what is struck", Check.NO, hall.appeal(0, 1));
-        CHECK.due("refused appeals are none", 1, hall.line(0, 6));
-        CHECK.due("let stand again", 2, hall.appeal(0, 0));
-        for (int n = 3; n <= 8; n++) {
-            CHECK.due("appeal " + n, n, hall.appeal(0, n % 2));
-        }
-        CHECK.due("NO stands ahead of FULL", Check.NO, hall.appeal(0, 0));
-        CHECK.due("a ninth", Check.FULL, hall.appeal(0, 1));
-        CHECK.due("the other line has room", 1, hall.appeal(1, 1));
-        int[][] bad = {{-1, 1}, {2, 1}, {0, 2}, {0, -1}};
-        for (int[] a : bad) {
-            CHECK.due("appeal(" + a[0] + ", " + a[1] + ")", Check.BAD, hall.appeal(a[0], a[1]));
+    /** Texts of house 2, each "answer : text" and on a new object; a text with a fault brings no line. */
+    private static void reads(String words, String... texts) {
+        for (String text : texts) {
+            int came = Math.max(Integer.parseInt(text.substring(0, text.indexOf(" : "))), 0);
+            CHECK.sentence(words).rows("told 2 0 = " + text, "count 0 = " + came, "count 4 = 0");
         }
     }
 
-    private static void linesStand() {
-        DeclarationHall hall = new DeclarationHall();
-        hall.days(10);
-        Check.declare(hall, 0, 0, "goods 1");
-        hall.days(10);
-        hall.appeal(0, 1);
-        hall.days(10);
-        hall.appeal(0, 0);
-        hall.appeal(0, 1);
-        hall.days(10);
-        hall.appeal(0, 0);
-        int[][] want = {{0, 0}, {9, 0}, {10, 1}, {19, 1}, {20, 0}, {29, 0}, {30, 0}, {39, 0}, {40, 1}, {100000, 1}};
-        for (int[] a : want) {
-            CHECK.due("stands(0, " + a[0] + ")", a[1], hall.stands(0, a[0]));
+    private static void oneOrMoreLines() {
+        reads("T1: one or more LINES", "-100 : ", "1 : goods 1", "2 : goods 1,goods 1",
+            "5 : land 1 2,goods 3,heads 4,owes 5 6,lent 7 8", "7 : " + SEVEN_LINES, "7 :  " + SEVEN_LINES + "    ");
+        reads("T1: a comma between", "-108 : goods 1 goods 2", "-108 : goods 1,,goods 2", "-100 : ,goods 1",
+            "-101 :  ,goods 1", "-108 : goods 1 ; goods 2", "-100 : ,", "-100 : ,,");
+        CHECK.sentence("6: how many LINES came").rows("told 3 0 = 3 : land 11 4,owes 0 5,heads 6", "line 0 4 = 11",
+            "line 0 5 = 4", "line 1 4 = 0", "line 1 5 = 5", "line 2 4 = NONE", "line 2 5 = 6", "line 3 0 = BAD");
+    }
+
+    private static void numbersOfKinds() {
+        reads("T1: LAND, so much of it, 1 .. 500", "-107 : land 1 0", "1 : land 1 1", "1 : land 1 500",
+            "-107 : land 1 501", "-107 : land 1 9999", "-107 : land 1 4294967297");
+        reads("T1: GOODS, 1 .. 9999", "-106 : goods 0", "1 : goods 1", "1 : goods 9999", "-106 : goods 10000",
+            "-106 : goods 2147483648", "-106 : goods 4294967295", "-106 : goods 4294967297",
+            "-106 : goods 18446744073709551617", "-106 : goods 340282366920938463463374607431768211457",
+            "-106 : goods 99999999999999999999999999999999999999999999999999999");
+        reads("T1: HEADS, 1 .. 50", "-106 : heads 0", "1 : heads 1", "1 : heads 50", "-106 : heads 51",
+            "-106 : heads 500", "-106 : heads 4294967297");
+        reads("T1: OWES, 1 .. 9999", "-107 : owes 1 0", "1 : owes 1 1", "1 : owes 1 9999", "-107 : owes 1 10000",
+            "-107 : owes 1 4294967297");
+        reads("T1: LENT, 1 .. 9999", "-107 : lent 1 0", "1 : lent 1 1", "1 : lent 1 9999", "-107 : lent 1 10000",
+            "-107 : lent 1 4294967297");
+    }
+
+    private static void plotsAndHouses() {
+        reads("T1: PLOTS 0 .. 11", "1 : land 0 1", "1 : land 11 1", "-105 : land 12 1", "-105 : land 4294967296 1",
+            "-105 : land 18446744073709551616 1");
+        reads("T1: HOUSES are 0 .. 9", "1 : owes 0 1", "1 : owes 9 1", "-105 : owes 10 1", "-105 : owes 4294967296 1",
+            "1 : lent 0 1", "1 : lent 9 1", "-105 : lent 10 1", "-105 : lent 4294967296 1");
+        reads("T1: a HOUSE is not that itself", "-105 : owes 2 1", "-105 : lent 2 1", "1 : owes 1 2", "1 : lent 3 2",
+            "-105 : owes 02 1", "-105 : lent 0002 1", "1 : land 2 2", "-113 : goods 1,owes 2 1");
+        CHECK.sentence("T1: the first and the last house itself").rows("told 0 0 = -105 : owes 0 1",
+            "told 9 0 = -105 : lent 9 1", "told 0 0 = 1 : owes 9 1", "told 9 0 = 1 : lent 0 1");
+    }
+
+    private static void blanks() {
+        reads("T1: blanks between, one or more", "1 : goods  1", "1 : land   1     2",
+            "1 : goods" + " ".repeat(54) + "1", "-100 : goods1", "-106 : land 1,2", "-104 : land,1 2", "-105 : owes 12",
+            "-100 : owes1 2", "-100 : goods\t1", "-100 : goods\0001", "-100 : goods\n1", "-100 : goods\u001f1",
+            "-100 : goods!1");
+        reads("T1: none is needed beside a comma or at the ends", "2 : goods 1,goods 2", "2 : goods 1 ,goods 2",
+            "2 : goods 1, goods 2", "2 :   goods 1   ,   goods 2   ", "1 :  goods 1", "1 : goods 1 ");
+    }
+
+    private static void words() {
+        reads("T1: A WORD is what stands between blanks, commas and ends", "-100 : land. 1 1", "-100 : lands 1 1",
+            "-100 : lan 1 1", "-100 : xland 1 1", "-100 : Land 1 1", "-100 : LAND 1 1", "-100 : good 1",
+            "-100 : goodss 1", "-100 : goodz 1", "-100 : head 1", "-100 : headz 1", "-100 : owe 1 1", "-100 : owed 1 1",
+            "-100 : lend 1 1", "-100 : len 1 1", "-100 : lent;1 1", "-100 : debt 1 1", "-100 : line 1",
+            "-100 : property 1", "-100 : goods-1");
+    }
+
+    private static void numbers() {
+        reads("T1: a NUMBER is digits alone", "-106 : goods +1", "-106 : goods -1", "-106 : goods 1.",
+            "-106 : goods 1/", "-106 : goods /1", "-106 : goods 1:", "-106 : goods :1", "-106 : goods 0x1",
+            "-106 : goods 1x", "-106 : goods x", "-106 : goods 1\000", "-106 : goods 1_0", "-105 : land +1 1",
+            "-107 : land 1 1e", "-105 : owes 1: 1");
+        reads("T1: .. zeros ahead are digits, too", "1 : goods 01", "1 : land 0011 00500", "1 : heads 050",
+            "1 : owes 09 09999", "-106 : goods 000", "-108 : land 00 00", "1 : goods " + "0".repeat(53) + "1");
+        CHECK.sentence("T1: .. and change no number").rows("told 2 0 = 3 : land 0011 00500,goods 0012,owes 007 003",
+            "line 0 4 = 11", "line 0 5 = 500", "line 1 5 = 12", "line 2 4 = 7", "line 2 5 = 3");
+    }
+
+    private static void whatCannotStandThere() {
+        reads("T1: what can't stand where it is (at its first byte): where a kind is due", "-100 : 7", "-100 : x",
+            "-108 : goods 1,7", "-109 : goods 1, ,goods 1", "-103 :    x");
+        reads("T1: .. where a PLOT or a HOUSE is due", "-104 : land, goods 1", "-105 : land goods 1",
+            "-106 : owes  x 1", "-105 : lent ,1 1", "-106 : owes  lent 1 1");
+        reads("T1: .. where a number is due", "-105 : goods,1", "-106 : goods ,1", "-106 : land 1,", "-107 : land 1 ,",
+            "-107 : land 1 land 1 1", "-106 : heads heads 1", "-107 : owes 1 x");
+        reads("T1: .. where a comma or the end is due", "-109 : land 1 5 5", "-108 : goods 1 2", "-110 : goods 1   x",
+            "-108 : goods 1 1,goods 1");
+    }
+
+    private static void theEnd() {
+        reads("T1: the end, if it comes too soon (the place behind the last byte on THE TAPE)", "-100 : ", "-101 :  ",
+            "-104 : land", "-105 : land ", "-107 : land   ", "-106 : land 1", "-107 : land 1 ", "-109 : land 1   ",
+            "-105 : goods", "-105 : heads", "-104 : owes", "-106 : owes 1", "-104 : lent", "-106 : lent 1",
+            "-108 : goods 1,", "-110 : goods 1,  ", "-110 : goods 1 , ", "-112 : goods 1,land");
+        reads("T1: .. of a full tape", "-160 : " + " ".repeat(60), "-160 : goods 1" + " ".repeat(52) + ",",
+            "-160 : " + SEVEN_LINES + ",land");
+    }
+
+    private static void theFirstFault() {
+        reads("T1: The first one is told", "-100 : x y z", "-105 : land 12 0", "-105 : land x 501", "-105 : owes 2 0",
+            "-105 : owes 2", "-106 : goods 0,goods 0", "-106 : goods 0 1", "-108 : goods 1,x 1,y",
+            "-116 : goods 1,goods 2,bad", "-107 : owes 1 0,");
+    }
+
+    private static void places() {
+        reads("6: -100 less the place of its fault", "-100 : !", "-159 : " + " ".repeat(59) + "x",
+            "-158 : " + " ".repeat(58) + "xx", "-159 : " + SEVEN_LINES + "    x",
+            "-156 : " + SEVEN_LINES + ",x", "-159 : goods" + " ".repeat(54) + "0");
+    }
+
+    private static void housesAndYears() {
+        for (String wrong : new String[] {"-1", "10", "MIN", "MAX"}) {
+            CHECK.sentence("6: BAD: a HOUSE is 0 .. 9").rows("told " + wrong + " 0 = BAD : goods 1", "count 0 = 0");
+            CHECK.sentence("6: BAD: a YEAR is 0 .. 30").rows("told 0 " + wrong.replace("10", "31") + " = BAD : goods 1",
+                "count 0 = 0");
         }
-        CHECK.due("stands(0, -1)", Check.BAD, hall.stands(0, -1));
-        CHECK.due("stands(0, 100001)", Check.BAD, hall.stands(0, 100001));
-        CHECK.due("stands(1, 0)", Check.BAD, hall.stands(1, 0));
-        CHECK.due("stands(-1, 0)", Check.BAD, hall.stands(-1, 0));
+        CHECK.sentence("6: a HOUSE 0 .. 9, a YEAR 0 .. 30").rows("told 0 0 = 1 : goods 1", "told 9 30 = 1 : goods 1",
+            "line 0 1 = 0", "line 0 2 = 0", "line 1 1 = 9", "line 1 2 = 30");
+        CHECK.sentence("6: BAD stands ahead of a fault").rows("told 10 0 = BAD : x", "told 0 31 = BAD : x",
+            "told -1 -1 = BAD : ");
+    }
+
+    private static void roomForAll() {
+        Sentence room = CHECK.sentence("6: FULL: there is no room for all").each(1, 14, "told 0 0 = 7 : " + SEVEN_LINES)
+            .rows("count 0 = 98", "told 0 0 = FULL : goods 1,goods 1,goods 1", "count 0 = 98", "line 98 0 = BAD",
+                "told 1 1 = 1 : heads 9", "told 0 0 = FULL : goods 1,goods 1", "count 0 = 99",
+                "told 0 0 = FULL : " + SEVEN_LINES);
+        room.rows("told 2 2 = 1 : lent 3 8", "count 0 = 100", "line 98 0 = 3", "line 99 0 = 5", "line 99 1 = 2",
+            "line 100 0 = BAD", "told 0 0 = FULL : goods 1", "told 0 0 = FULL : " + SEVEN_LINES, "count 0 = 100");
+        room.rows("told 0 0 = -106 : goods x");
+        CHECK.sentence("6: BAD and a fault stand ahead of FULL").each(1, 14, "told 0 0 = 7 : " + SEVEN_LINES)
+            .rows("told 0 0 = -124 : goods 1,goods 1,goods 1,", "told 10 0 = BAD : goods 1,goods 1,goods 1",
+                "told 0 31 = BAD : goods 1,goods 1,goods 1", "told 0 0 = 2 : goods 1,goods 1", "told 0 0 = -100 : ",
+                "told 0 0 = -106 : goods 0", "told -1 0 = BAD : goods 1");
     }
 }
