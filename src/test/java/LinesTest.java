@@ -11,6 +11,7 @@ public final class LinesTest {
         appealsAreEight();
         stands();
         latestAppeal();
+        theLastOfAHundred();
         CHECK.end();
     }
 
@@ -102,5 +103,17 @@ public final class LinesTest {
         CHECK.sentence("T1: .. of several on one DAY the latest").rows("told 0 0 = 1 : goods 1", "appeal 0 1 = 1",
             "appeal 0 0 = 2", "stands 0 0 = 1", "days 5 = 5", "appeal 0 1 = 3", "appeal 0 0 = 4", "appeal 0 1 = 5",
             "stands 0 4 = 1", "stands 0 5 = 0", "stands 0 0 = 1", "stands 0 100000 = 0");
+    }
+
+    private static void theLastOfAHundred() {
+        Sentence last = CHECK.sentence("7 to 10, T1: the last of 100 LINES")
+            .each(1, 16, "told 0 0 = 6 : goods #,goods 1,goods 1,goods 1,goods 1,goods 1")
+            .rows("days 1 = 1", "told 8 29 = 4 : goods 1,goods 2,heads 3,lent 9 4", "line 99 0 = 5", "line 99 1 = 8",
+                "line 99 2 = 29", "line 99 3 = 1", "line 99 4 = 9", "line 99 5 = 4", "isOf 99 6 = 1", "isOf 99 4 = 0");
+        for (int n = 1; n <= 8; n++) {
+            last.rows("appeal 99 " + n % 2 + " = " + n);
+        }
+        last.rows("appeal 99 1 = FULL", "line 99 6 = 8", "line 98 6 = 0", "stands 99 1 = 1", "stands 99 0 = 0",
+            "line 100 0 = BAD", "isOf 100 0 = BAD", "appeal 100 1 = BAD", "stands 100 1 = BAD");
     }
 }
